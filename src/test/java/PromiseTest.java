@@ -1,16 +1,7 @@
 /** The promises one by one: ordinary inputs, the document's edges, wrong inputs; told by hand. */
 public final class PromiseTest {
-    private static final int NONE = -1, BAD = -2, NO = -3, FULL = -4, NOT_SO_MANY = -5;
-    private static int wrong = 0;
-    private static int checks = 0;
-
-    private static void due(String what, long got, long want) {
-        checks++;
-        if (got != want) {
-            wrong++;
-            System.out.println(what + " answered " + got + ", due is " + want);
-        }
-    }
+    private static final int NONE = Due.NONE, BAD = Due.BAD, NO = Due.NO, FULL = Due.FULL, NOT_SO_MANY = Due.NOT_SO_MANY;
+    private static final Due DUE = new Due("PromiseTest");
 
     public static void main(String[] args) {
         newObject();
@@ -36,32 +27,23 @@ public final class PromiseTest {
         back();
         told();
         digest();
-        if (wrong > 0) {
-            System.exit(1);
-        }
-        System.out.println("PromiseTest: " + checks + " answers as due");
+        DUE.end();
+    }
+
+    private static void due(String what, long got, long want) {
+        DUE.is(what, got, want);
     }
 
     private static CarriedSets with(int n, int... codes) {
-        CarriedSets x = new CarriedSets();
-        x.points(n);
-        for (int code : codes) {
-            x.moves(code);
-        }
-        return x;
+        return Due.with(n, codes);
     }
 
     private static void retype(CarriedSets x, String text) {
-        x.clear();
-        for (char c : text.toCharArray()) {
-            x.type(c);
-        }
+        Due.retype(x, text);
     }
 
     private static void refused(String what, CarriedSets x, int bad, int no, int full) {
-        due(what + ": told(0)", x.told(0), bad);
-        due(what + ": told(1)", x.told(1), no);
-        due(what + ": told(2)", x.told(2), full);
+        DUE.refused(what, x, bad, no, full);
     }
 
     private static void newObject() {
@@ -471,27 +453,19 @@ public final class PromiseTest {
         refused("20 answers that are no refusals", x, 5, 1, 1);
     }
 
-    private static long chain(int... values) {
-        long h = 2477;
-        for (int v : values) {
-            h = 31 * h + v;
-        }
-        return h;
-    }
-
     private static void digest() {
-        due("21 N 2", with(2, 10).digest(), chain(0, 0, 0, 0, 2, 1, 2, 10, 2, 3, 3, 0, 3, 2, 0, 1, 0, 1, 1, 1, 3));
+        due("21 N 2", with(2, 10).digest(), Due.digestOf(0, 0, 0, 0, 2, 1, 2, 10, 2, 3, 3, 0, 3, 2, 0, 1, 0, 1, 1, 1, 3));
         CarriedSets x = with(3);
         x.points(0);
         x.back();
         x.back();
         x.type(32);
         x.points(3);
-        long want = chain(1, 1, 0, 1, 3, 0, 1, 1, 1, 1, 0, 2, 2, 1, 4, 4, 2, 1, 0, 3, 1, 2, 4, 3, 3, 5, 6, 1, 7);
+        long want = Due.digestOf(1, 1, 0, 1, 3, 0, 1, 1, 1, 1, 0, 2, 2, 1, 4, 4, 2, 1, 0, 3, 1, 2, 4, 3, 3, 5, 6, 1, 7);
         due("21 N 3", x.digest(), want);
         due("21 asking changes nothing", x.digest(), want);
         due("21 heads in order", with(4, 1032).digest(),
-            chain(0, 0, 0, 0, 4, 1, 2, 1032, 2, 3, 3, 0, 3, 2, 0, 12, 4, 2, 12, 8, 2,
+            Due.digestOf(0, 0, 0, 0, 4, 1, 2, 1032, 2, 3, 3, 0, 3, 2, 0, 12, 4, 2, 12, 8, 2,
                 1, 0, 2, 1, 4, 4, 3, 5, 9, 12, 2, 7, 13, 1, 15));
     }
 }
