@@ -2,8 +2,8 @@ import java.util.ArrayList;
 import java.util.List;
 
 /**
- * With few POINTS nothing is left out: each N to 4, each choice of two GENERATORS (of three up to N
- * 3), each question with each number that is taken, and one beyond, against the plain model.
+ * With few POINTS little is left out: each N to 4, each choice of two GENERATORS (of three up to N
+ * 3), each question with each number that is taken, against the plain model.
  */
 public final class SmallTest {
     private static final Due DUE = new Due("SmallTest");
@@ -12,6 +12,7 @@ public final class SmallTest {
         for (int n = 1; n <= 4; n++) {
             List<Integer> moves = movesOf(n);
             for (int a : moves) {
+                asksImages(n, a);
                 for (int b : moves) {
                     asks(n, a, b);
                     for (int c : n <= 3 ? moves : List.<Integer>of()) {
@@ -33,6 +34,13 @@ public final class SmallTest {
         return moves;
     }
 
+    private static void asksImages(int n, int code) {
+        CarriedSets x = Due.with(n);
+        for (int set = 0; set < 1 << n; set++) {
+            DUE.is("image(" + set + ", " + code + "), N " + n, x.image(set, code), Model.carry(set, Model.figures(code, n)));
+        }
+    }
+
     private static void asks(int n, int... codes) {
         Model model = new Model();
         model.points(n);
@@ -48,6 +56,11 @@ public final class SmallTest {
         }
         for (int k = 0; k <= model.all().length; k++) {
             DUE.is("element(" + k + ")" + where, x.element(k), model.element(k));
+        }
+        for (int p = 0; p < n; p++) {
+            for (int what = 0; what <= 2; what++) {
+                DUE.is("of(" + p + ", " + what + ")" + where, x.of(p, what), model.of(p, what));
+            }
         }
         asksSets(Due.with(n, codes), model, where);
         asksCarriers(Due.with(n, codes), model, where);
