@@ -26,12 +26,18 @@ public final class LanguageTest {
     private static final String[] FORBIDDEN = {"throw", "throws", "try", "catch", "finally", "synchronized", "assert", "->", "::",
         "Exact", "hashCode", "toString", "System.currentTimeMillis", "System.nanoTime", "Random", "Thread", "var", "native",
         "abstract", "protected", "package", "static {", "new Object", "getClass"};
+    private static final Set<String> LIBRARY = Set.of("Arrays.fill", "Arrays.copyOf", "Arrays.copyOfRange", "System.arraycopy",
+        "Integer.bitCount", "Integer.compare", "Long.compare", "Math.max", "Math.min", "Math.abs", "Math.floorDiv", "Math.floorMod");
+    private static final int MOST_LINES = 60;
+    private static final int MOST_FIELDS = 20;
     private static final List<String> wrong = new ArrayList<>();
 
     public static void main(String[] args) throws IOException {
         face();
         members();
-        words(Files.readString(Path.of(SOURCE), StandardCharsets.ISO_8859_1));
+        String source = Files.readString(Path.of(SOURCE), StandardCharsets.ISO_8859_1);
+        words(source);
+        lengths(source.split("\n"));
         for (String line : wrong) {
             System.out.println(line);
         }
@@ -50,6 +56,8 @@ public final class LanguageTest {
                 seen.add(told);
             } else if (!Modifier.isPrivate(m.getModifiers())) {
                 wrong.add("not private: " + told);
+            } else if (faceNames().contains(m.getName())) {
+                wrong.add("private, with a public one's name: " + told);
             }
         }
         if (!seen.equals(new TreeSet<>(FACE))) {
@@ -59,6 +67,14 @@ public final class LanguageTest {
         if (!Modifier.isPublic(access) || !Modifier.isFinal(access)) {
             wrong.add("the class is not public and final");
         }
+    }
+
+    private static Set<String> faceNames() {
+        Set<String> names = new HashSet<>();
+        for (String told : FACE) {
+            names.add(told.substring(told.indexOf(' ') + 1, told.indexOf('(')));
+        }
+        return names;
     }
 
     private static void members() {
@@ -79,16 +95,14 @@ public final class LanguageTest {
         if (made.length != 1 || made[0].getParameterCount() != 0 || !Modifier.isPublic(made[0].getModifiers())) {
             wrong.add("the constructors are not as told");
         }
-        Set<String> names = new HashSet<>();
-        for (String told : FACE) {
-            names.add(told.substring(told.indexOf(' ') + 1, told.indexOf('(')));
-        }
+        fields(CarriedSets.class);
         Class<?>[] inside = CarriedSets.class.getDeclaredClasses();
         if (inside.length > 11) {
             wrong.add("too many classes");
         }
         for (Class<?> c : inside) {
-            inside(c, names);
+            inside(c, faceNames());
+            fields(c);
         }
     }
 
@@ -101,9 +115,34 @@ public final class LanguageTest {
                 wrong.add(c + ": " + m.getName());
             }
         }
+    }
+
+    private static void fields(Class<?> c) {
+        int own = 0;
         for (Field f : c.getDeclaredFields()) {
-            if (Modifier.isStatic(f.getModifiers()) && !Modifier.isFinal(f.getModifiers())) {
+            if (!Modifier.isStatic(f.getModifiers())) {
+                own++;
+            } else if (!Modifier.isFinal(f.getModifiers())) {
                 wrong.add(c + ": static " + f.getName());
+            }
+        }
+        if (own > MOST_FIELDS) {
+            wrong.add(c + ": " + own + " fields");
+        }
+    }
+
+    /** A method begins with a line that has a ( and ends in {, and ends with a } as far in. */
+    private static void lengths(String[] lines) {
+        for (int k = 0; k < lines.length; k++) {
+            Matcher begun = Pattern.compile("( {4}| {8})\\w[^=;]*\\(.*\\{").matcher(lines[k]);
+            if (begun.matches()) {
+                int end = k;
+                while (end < lines.length && !lines[end].equals(begun.group(1) + "}")) {
+                    end++;
+                }
+                if (end - k >= MOST_LINES) {
+                    wrong.add("more than " + MOST_LINES + " lines: " + lines[k].trim());
+                }
             }
         }
     }
@@ -115,6 +154,13 @@ public final class LanguageTest {
             Matcher found = Pattern.compile(edge + Pattern.quote(word) + (edge.isEmpty() || word.endsWith("{") ? "" : edge)).matcher(bare);
             if (found.find()) {
                 wrong.add("the source has: " + word);
+            }
+        }
+        Matcher library = Pattern.compile("\\b[A-Z][a-z]\\w*\\.[a-z]\\w*(?=\\()").matcher(bare);
+        while (library.find()) {
+            String owner = library.group().substring(0, library.group().indexOf('.'));
+            if (!LIBRARY.contains(library.group()) && !bare.contains("static final class " + owner + " ")) {
+                wrong.add("the source calls " + library.group());
             }
         }
         Matcher imports = Pattern.compile("import ([^;]+);").matcher(bare);
